@@ -757,7 +757,9 @@ public final class LieCandles {
         }
 
         void expectWord(int word) {
-            if (!takeWord(word)) {
+            if (peekWord() == word) {
+                at = wordEnd;
+            } else {
                 fail(NO_SUCH_TEXT, at);
             }
         }
@@ -872,20 +874,16 @@ public final class LieCandles {
                     opened--;
                 }
             } else {
-                comparison();
+                sum();
+                int sign = peek();
+                if (sign == '<' || sign == '>' || sign == '=') {
+                    at++;
+                    sum();
+                    code.put(~sign);
+                } else {
+                    fail(NO_SUCH_TEXT, at);
+                }
             }
-        }
-
-        private void comparison() {
-            sum();
-            int sign = peek();
-            if (sign != '<' && sign != '>' && sign != '=') {
-                fail(NO_SUCH_TEXT, at);
-                return;
-            }
-            at++;
-            sum();
-            code.put(~sign);
         }
 
         void sum() {
@@ -1426,8 +1424,11 @@ public final class LieCandles {
         int draughty(State state, int window, int hour) {
             meanings[PLACE] = window;
             meanings[HOUR] = hour;
-            int told = run(state, street.code, DRAFTS_CODE);
-            return Math.max(0, Math.min(MOST_DRAUGHTY, told));
+            return draughtyBy(run(state, street.code, DRAFTS_CODE));
+        }
+
+        private static int draughtyBy(int sum) {
+            return Math.max(0, Math.min(MOST_DRAUGHTY, sum));
         }
 
         /** The LIES that are BELIEVED, as bits: a LIE hangs on one told ahead of it, so one round is enough. */
@@ -1516,14 +1517,14 @@ public final class LieCandles {
         private int reckon(State state, int lie, Code code, int which) {
             int owner = street.owners[lie];
             int words = code.words[which];
+            meanings[HOUR] = state.hour;
+            meanings[PLACE] = state.homes[owner];
             if ((words >> NEAR & 1) == 1) {
                 meanings[NEAR] = nearTo(state, lie);
             }
             if ((words >> DRAFT & 1) == 1) {
-                meanings[DRAFT] = draughty(state, state.homes[owner], state.hour);
+                meanings[DRAFT] = draughtyBy(run(state, street.code, DRAFTS_CODE));
             }
-            meanings[HOUR] = state.hour;
-            meanings[PLACE] = state.homes[owner];
             meanings[INCHES] = state.candles[lie];
             meanings[TOLD] = state.toldHours[lie];
             meanings[TRUST] = street.trusts[owner];

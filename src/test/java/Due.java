@@ -59,11 +59,17 @@ final class Due {
         due("fault(1) of " + text, -1, x.fault(1));
     }
 
-    void streetFault(String text, int fault, int place) {
+    /** The text has this FAULT where the mark @ stands in it. */
+    void streetFault(int fault, String marked) {
+        String text = marked.replace("@", "");
         tape(text);
         due("street() of " + text, -1, x.street());
-        due("fault(0) of " + text, fault, x.fault(0));
-        due("fault(1) of " + text, place, x.fault(1));
+        dueFault(fault, marked);
+    }
+
+    private void dueFault(int fault, String marked) {
+        due("fault(0) of " + marked, fault, x.fault(0));
+        due("fault(1) of " + marked, marked.indexOf('@'), x.fault(1));
     }
 
     void ask(String text, long answer) {
@@ -73,11 +79,11 @@ final class Due {
         due("fault(1) of " + text, -1, x.fault(1));
     }
 
-    void askFault(String text, int fault, int place) {
+    void askFault(int fault, String marked) {
+        String text = marked.replace("@", "");
         tape(text);
         due("ask() of " + text, LieCandles.NOTHING, x.ask());
-        due("fault(0) of " + text, fault, x.fault(0));
-        due("fault(1) of " + text, place, x.fault(1));
+        dueFault(fault, marked);
     }
 
     void close() {

@@ -840,7 +840,7 @@ public final class LieCandles {
             return kind;
         }
 
-        void test() {
+        private void test() {
             both();
             for (int k = 0; k < TAPE_ROOM && takeWord(OR); k++) {
                 both();
@@ -886,7 +886,7 @@ public final class LieCandles {
             }
         }
 
-        void sum() {
+        private void sum() {
             product();
             int sign = peek();
             for (int k = 0; k < TAPE_ROOM && (sign == '+' || sign == '-'); k++) {
@@ -1496,7 +1496,7 @@ public final class LieCandles {
             switch (kind) {
                 case FIRST: return answer == NONE && value != 0 ? lie : answer;
                 case LAST: return value != 0 ? lie : answer;
-                case OFTEN: return answer + value;
+                case OFTEN:
                 case TOTAL: return answer + value;
                 case MOST: return lie == 0 || value > answer ? value : answer;
                 default: return lie == 0 || value < answer ? value : answer;

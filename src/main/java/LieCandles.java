@@ -1039,7 +1039,7 @@ public final class LieCandles {
         }
 
         void addLie(int name, int owner) {
-            if (lies < MOST_LIES) {
+            if (owner >= 0 && lies < MOST_LIES) {
                 lieNames[lies] = name;
                 owners[lies] = owner;
                 bases[lies] = NONE;
@@ -1048,7 +1048,7 @@ public final class LieCandles {
         }
 
         void addRow(int lie, int hour, int inches) {
-            if (rows < MOST_ROWS) {
+            if (lie >= 0 && rows < MOST_ROWS) {
                 rowLies[rows] = lie;
                 rowHours[rows] = hour;
                 rowInches[rows] = inches;

@@ -3,6 +3,18 @@ final class AskTest {
     public static void main(String[] args) {
         Due t = new Due();
         withoutStreet(t);
+        words(t);
+        candles(t);
+        arithmetic(t);
+        tests(t);
+        faults(t);
+        withoutLies(t);
+        t.close();
+    }
+
+    /** HOUR 3; w has 8 inches, x 19, y is not lit, z has 29; w, z are believed. */
+    private static void scene(Due t) {
+        t.anew();
         t.street("street 6;person a at 1 trust 3;person b at 2 trust 8;person c at 5 trust 5;"
                 + "lie w of a;lie x of b;lie y of b;lie z of c;hangs y on w;drafts place+hour;burns 1;believes inches<9 or trust=5;", 12);
         t.x.hours(2);
@@ -10,12 +22,6 @@ final class AskTest {
         t.x.light(1, 20);
         t.x.light(3, 30);
         t.x.hours(1);
-        words(t);
-        arithmetic(t);
-        tests(t);
-        faults(t);
-        withoutLies(t);
-        t.close();
     }
 
     private static void withoutStreet(Due t) {
@@ -28,11 +34,11 @@ final class AskTest {
     }
 
     private static void words(Due t) {
-        // HOUR 3; w 8 inches, x 19, y not lit, z 29; w, z are believed.
         String[] all = {"number", "inches", "trust", "near", "draft", "told", "place", "lit", "held", "hour"};
         int[][] values = {{0, 1, 2, 3}, {8, 19, 0, 29}, {3, 8, 8, 5}, {1, 1, 2, 0}, {4, 5, 5, 8}, {1, 1, 0, 1}, {1, 2, 2, 5}, {1, 1, 0, 1},
             {1, 0, 0, 1}, {3, 3, 3, 3}};
         for (int k = 0; k < all.length; k++) {
+            scene(t);
             long sum = 0;
             long most = values[k][0];
             long least = values[k][0];
@@ -47,6 +53,10 @@ final class AskTest {
             t.ask("most " + all[k], most);
             t.ask("least " + all[k], least);
         }
+    }
+
+    private static void candles(Due t) {
+        scene(t);
         t.ask("most wax 0", 8);
         t.ask("most wax 2", 0);
         t.ask("most wax 3", 29);
@@ -67,6 +77,7 @@ final class AskTest {
     }
 
     private static void arithmetic(Due t) {
+        scene(t);
         t.ask("most 2+3*4", 14);
         t.ask("most 2-3-4", -5);
         t.ask("most 100/7*7", 98);
@@ -94,6 +105,7 @@ final class AskTest {
     }
 
     private static void tests(Due t) {
+        scene(t);
         t.ask("first all", 0);
         t.ask("last all", 3);
         t.ask("often all", 4);
@@ -114,6 +126,7 @@ final class AskTest {
     }
 
     private static void faults(Due t) {
+        scene(t);
         t.askFault(1, "@");
         t.askFault(1, "  @");
         t.askFault(1, "@all");
@@ -144,7 +157,7 @@ final class AskTest {
         t.ask("first not[not[[wax 1+wax 1=1]]]", -1);
         t.askFault(4, "first not not not not not not @not all");
         t.ask("often not not not not not not all and not not not not not not all", 4);
-        t.due("no fault is refused", 1, t.x.status(1));
+        t.due("no fault is refused", 0, t.x.status(1));
     }
 
     private static void withoutLies(Due t) {

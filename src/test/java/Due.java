@@ -2,17 +2,24 @@
 final class Due {
     private int wrong = 0;
     private int asked = 0;
+    private String sentence = "";
     LieCandles x = new LieCandles();
 
     void anew() {
         x = new LieCandles();
     }
 
+    /** What follows is due by this sentence of the document, and has an object of its own. */
+    void sentence(String told) {
+        sentence = told;
+        anew();
+    }
+
     void due(String call, long want, long got) {
         asked++;
         if (got != want) {
             wrong++;
-            System.out.println(call + " answered " + got + ", due is " + want);
+            System.out.println(call + " answered " + got + ", due is " + want + (sentence.isEmpty() ? "" : " by: " + sentence));
         }
     }
 

@@ -20,7 +20,7 @@ final class FuzzTest {
 
     public static void main(String[] args) {
         int first = args.length > 0 ? Integer.parseInt(args[0]) : 1;
-        int count = args.length > 1 ? Integer.parseInt(args[1]) : 300;
+        int count = args.length > 1 ? Integer.parseInt(args[1]) : 400;
         long all = 0;
         int wrong = 0;
         for (int seed = first; seed < first + count; seed++) {
@@ -257,6 +257,9 @@ final class FuzzTest {
     }
 
     private int index(int size) {
+        if (seldom(80)) {
+            return seldom(2) ? Integer.MIN_VALUE : Integer.MAX_VALUE;
+        }
         return seldom(25) ? below(20) - 5 : size > 0 ? below(size) : 0;
     }
 
@@ -277,7 +280,8 @@ final class FuzzTest {
         }
         newStreet();
         int rounds = 20 + below(140);
-        for (int k = 0; k < rounds && right; k++) {
+        // A round makes 90 calls at most, and not all are counted: no object is used for more than 512.
+        for (int k = 0; k < rounds && right && asked < 330; k++) {
             switch (below(4)) {
                 case 0: act(); break;
                 case 1: look(); break;

@@ -95,6 +95,7 @@ final class SightTest {
     }
 
     private static void telling(Due t) {
+        t.anew();
         t.street("street 5;person a at 2 trust 1;person b at 4 trust 1;lie x of a;lie y of b;burns 2;", 6);
         t.due("tells(0, 0), not lit", -1, t.x.tells(0, 0));
         t.x.light(0, 20);
@@ -121,6 +122,7 @@ final class SightTest {
     }
 
     private static void lastHours(Due t) {
+        t.anew();
         t.street("street 5;person a at 2 trust 1;lie x of a;burns 9;", 4);
         for (int k = 0; k < 9; k++) {
             t.x.hours(100);

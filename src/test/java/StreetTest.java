@@ -20,6 +20,7 @@ final class StreetTest {
     }
 
     private static void heads(Due t) {
+        t.anew();
         t.street("street 2;", 1);
         t.street("street 30;", 1);
         t.due("windows", 30, t.x.has(0));
@@ -49,8 +50,10 @@ final class StreetTest {
 
     private static void names(Due t) {
         for (String word : OWN) {
+            t.anew();
             t.streetFault(1, "street 9;person @" + word + " at 1 trust 1;");
         }
+        t.anew();
         for (String word : new String[] {"first", "last", "often", "total", "most", "least", "abcdef", "z", "ons"}) {
             t.street("street 9;person " + word + " at 1 trust 1;", 2);
         }
@@ -75,6 +78,7 @@ final class StreetTest {
     }
 
     private static void numbers(Due t) {
+        t.anew();
         t.streetFault(2, "street @1;");
         t.streetFault(2, "street @0;");
         t.streetFault(2, "street @31;");
@@ -99,6 +103,7 @@ final class StreetTest {
     }
 
     private static void lies(Due t) {
+        t.anew();
         String m = L + "lie m of p;lie n of p;";
         t.street(m + "hangs n on l;hangs m on l;", 7);
         t.street(m + "hangs n on m;hangs m on l;", 7);
@@ -115,6 +120,7 @@ final class StreetTest {
     }
 
     private static void tooMany(Due t) {
+        t.anew();
         StringBuilder b = new StringBuilder("street 9;");
         for (int k = 0; k < 6; k++) {
             b.append("person p").append((char) ('a' + k)).append(" at ").append(k).append(" trust 1;");
@@ -147,6 +153,7 @@ final class StreetTest {
     }
 
     private static void depths(Due t) {
+        t.anew();
         t.street("street 9;drafts ((((((1))))))+((((((1))))));burns ((((((1))))));", 3);
         t.streetFault(4, "street 9;drafts ((((((@(1)))))));");
         t.street("street 9;believes not not not not not not all and not not not not not not 1<2;", 2);
@@ -161,6 +168,7 @@ final class StreetTest {
     }
 
     private static void sums(Due t) {
+        t.anew();
         t.street("street 9;drafts hour+place;burns hour+inches+near+draft+told;believes hour+inches+near+draft+told+trust>0;", 4);
         for (String word : new String[] {"inches", "near", "draft", "told", "trust", "number", "lit", "held", "wax 1", "all", "x"}) {
             t.streetFault(1, "street 9;drafts 1+@" + word + ";");

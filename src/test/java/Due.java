@@ -18,13 +18,24 @@ final class Due {
     void due(String call, long want, long got) {
         asked++;
         if (got != want) {
-            wrong++;
-            System.out.println(call + " answered " + got + ", due is " + want + (sentence.isEmpty() ? "" : " by: " + sentence));
+            miss(call, want, got);
         }
     }
 
     void due(String call, boolean want, boolean got) {
         due(call, want ? 1 : 0, got ? 1 : 0);
+    }
+
+    void due(String call, String want, String got) {
+        asked++;
+        if (!want.equals(got)) {
+            miss(call, want, got);
+        }
+    }
+
+    private void miss(String call, Object want, Object got) {
+        wrong++;
+        System.out.println(call + " answered " + got + ", due is " + want + (sentence.isEmpty() ? "" : " by: " + sentence));
     }
 
     /** The tape is this text alone. */

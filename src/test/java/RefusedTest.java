@@ -1,4 +1,7 @@
-/** A call that is refused changes nothing but its count; one that only tells changes nothing at all. */
+/**
+ * What a call that is refused leaves as it is: all but its count, the tape that street(), see() and on() take,
+ * and what fault() tells of street(). What ask() leaves, which is counted by none. A call that only tells changes nothing.
+ */
 final class RefusedTest {
     private static final int LEAST = Integer.MIN_VALUE;
     private static final int MOST = Integer.MAX_VALUE;
@@ -12,6 +15,9 @@ final class RefusedTest {
     public static void main(String[] args) {
         Due t = new Due();
         tapeCalls(t);
+        tapeGoes(t);
+        askTells(t);
+        askWithoutStreet(t);
         textCalls(t);
         acts(t);
         hourCalls(t);
@@ -86,9 +92,12 @@ final class RefusedTest {
         return b.toString();
     }
 
-    /** The call answers this, and changes nothing but its count, if it has one; tape: what is fed ahead of it. */
+    /**
+     * The call answers this, is counted, if it is of a kind, and leaves all but the tape (and fault()) as it was;
+     * tape: what is fed ahead of it.
+     */
     private static void due(Due t, String name, int kind, long answer, int[] tape, Call call) {
-        t.sentence(kind < 0 ? "(what tells changes nothing)" : "37. How many were refused: " + kind + "; all stays");
+        t.sentence(kind < 0 ? "(what only tells changes nothing)" : "37. How many were refused: " + kind + "; all stays");
         LieCandles untouched = scene();
         LieCandles x = scene();
         Due.feedBytes(x, tape);
@@ -102,7 +111,7 @@ final class RefusedTest {
 
     private static void same(Due t, String name, String want, String got) {
         boolean is = want.equals(got);
-        t.due(name + " changes nothing", true, is);
+        t.due(name + " leaves this as it was", true, is);
         if (!is) {
             System.out.println("  " + want + "\n  " + got);
         }
@@ -136,6 +145,78 @@ final class RefusedTest {
         t.due("feed() beyond", -1, x.feed(-1, -1, -1, -1, -1));
         t.due("street()", 1, x.street());
         t.due("has(0)", 3, x.has(0));
+    }
+
+    /** The tape of a call that is refused, or of ask(), has no byte left: behind it one alone can be fed and taken. */
+    private static void tapeGoes(Due t) {
+        Call[] takers = {x -> x.street(), x -> x.see(), x -> is(x.on()), x -> x.ask()};
+        String[] promises = {"4. street(): The tape (it goes)", "22. see(): The tape (it goes)", "36. on(): The tape (it goes)",
+            "33. ask(): The tape (it goes)"};
+        for (int k = 0; k < takers.length; k++) {
+            for (boolean street : new boolean[] {true, false}) {
+                t.sentence(promises[k] + (street ? "" : ", without a street, too"));
+                if (street) {
+                    t.street(STREET, 14);
+                }
+                long[] none = {-1, -1, 0, LieCandles.NOTHING};
+                t.tape("?????");
+                t.due("taken", none[k], takers[k].of(t.x));
+                t.due("end(1)", false, t.x.end(1));
+                t.due("feed()", 20, t.x.feed(0x73747265, 0x65742032, 0x3b202020, 0x20202020, 0x20202020));
+                t.due("street()", 1, t.x.street());
+            }
+        }
+        for (int length : new int[] {0, 1, 20, 1600}) {
+            t.sentence("2, 3. feed() and end(), refused, leave the tape (" + length + " bytes)");
+            t.tape(new int[length]);
+            t.due("end() beyond", false, t.x.end(length + 1));
+            t.due("end(-1)", false, t.x.end(-1));
+            t.due("feed() beyond", length == 1600 ? -1 : length + 20, t.x.feed(0, 0, 0, 0, 0));
+            t.due("end()", true, t.x.end(length));
+        }
+    }
+
+    private static void askTells(Due t) {
+        t.sentence("33, 5, 37. NOTHING with a FAULT: fault() tells it, no number of status() counts it");
+        LieCandles untouched = scene();
+        LieCandles x = scene();
+        String[] faulty = {"most wax ?", "", "first", "often 3", "total 12345", "least ((((((((1", "most x", "last all all"};
+        for (String text : faulty) {
+            Due.feedText(x, text);
+            t.due("ask() of " + text, LieCandles.NOTHING, x.ask());
+            t.due("fault(0) of " + text, text.startsWith("least") ? 4 : 1, x.fault(0));
+        }
+        t.due("fault(1)", 9, x.fault(1));
+        dueCounts(t, untouched, x);
+        Due.feedText(x, "most wax ?");
+        x.ask();
+        same(t, "ask() with a FAULT", told(untouched), told(x));
+        same(t, "what comes behind ask() with a FAULT", goesOn(untouched), goesOn(x));
+    }
+
+    private static void askWithoutStreet(Due t) {
+        t.sentence("33, 5, 37. NOTHING without a street (the tape goes, nothing else is done, fault() stays)");
+        LieCandles untouched = t.x;
+        for (String text : new String[] {"often all", "most ?", ""}) {
+            LieCandles x = new LieCandles();
+            Due.feedText(x, text);
+            t.due("ask() of " + text, LieCandles.NOTHING, x.ask());
+            dueCounts(t, untouched, x);
+            same(t, "ask() without a street", told(untouched), told(x));
+        }
+        Due.feedText(t.x, "street 2;street");
+        t.x.street();
+        Due.feedText(t.x, "often all");
+        t.due("ask()", LieCandles.NOTHING, t.x.ask());
+        t.due("fault(0) of street() stays", 1, t.x.fault(0));
+        t.due("fault(1) of street() stays", 9, t.x.fault(1));
+        t.due("status(1)", 1, t.x.status(1));
+    }
+
+    private static void dueCounts(Due t, LieCandles untouched, LieCandles x) {
+        for (int k = 0; k < 6; k++) {
+            t.due("status(" + k + ")", untouched.status(k), x.status(k));
+        }
     }
 
     private static void textCalls(Due t) {

@@ -1,4 +1,4 @@
-/** Promises 1 to 33: the bounds of what each call takes; a method for each promise or for each sentence of it. */
+/** Promises 1 to 12, 16, 22, 25 to 32, 37: the bounds of what each call takes; of the others, a LIE that there is not. */
 final class BoundCallTest {
     private static final int LEAST = Integer.MIN_VALUE;
     private static final int MOST = Integer.MAX_VALUE;
